@@ -463,6 +463,9 @@ public final class PromisesTest {
         x.dropLast();
         due("10: nextHole(4095)", x.nextHole(4095), 4095);
         due("10: nextHole(0) without holes", sixteen().nextHole(0), NONE);
+        PatternTableIsa upper = new PatternTableIsa();
+        upper.add(0x800, 0x800);
+        due("10: nextHole(0x800), holes below alone", upper.nextHole(0x800), NONE);
     }
 
     private static void covered() {
